@@ -1123,6 +1123,8 @@ public final class AlgebraCabinet {
         private Bytes text;
         private int at;
         private LawList list;
+        private final int[] signs = new int[MOST_TAPE + 1];
+        private final int[] signPlace = new int[MOST_TAPE + 1];
         private final int[] termPlace = new int[MOST_TERMS];
         private final int[] argumentsOf = new int[MOST_OPERATIONS];
 
@@ -1215,37 +1217,67 @@ public final class AlgebraCabinet {
 
         void readLaws(Bytes tape, LawList into) {
             begin(tape);
+            gatherSigns();
             list = into;
             list.clear();
-            if (readText()) {
+            boolean good = true;
+            boolean more = true;
+            for (int i = 0; i <= MOST_LAWS && good && more; i++) {
+                good = readLaw();
+                more = good && takes(';');
+            }
+            if (good && signs[at] != NONE) {
+                good = failHere(WRONG_SIGN);
+            }
+            if (good) {
                 compareArguments();
             }
             tape.length = 0;
         }
 
-        private boolean readText() {
-            boolean more = true;
-            for (int i = 0; i <= MOST_LAWS && more; i++) {
-                if (!readLaw()) {
-                    return false;
+        /** The bytes without blanks, and behind the last one NONE, whose place is the number of bytes. */
+        private void gatherSigns() {
+            int gathered = 0;
+            for (int i = 0; i < text.length; i++) {
+                int sign = text.byteAt(i);
+                if (sign != ' ' && sign != '\n') {
+                    signs[gathered] = sign;
+                    signPlace[gathered] = i;
+                    gathered++;
                 }
-                more = takes(';');
             }
-            return nextSign() == NONE || failAt(at, WRONG_SIGN);
+            signs[gathered] = NONE;
+            signPlace[gathered] = text.length;
+        }
+
+        private boolean failHere(int kind) {
+            return failAt(signPlace[at], kind);
+        }
+
+        private boolean takes(int sign) {
+            if (signs[at] != sign) {
+                return false;
+            }
+            at++;
+            return true;
         }
 
         private boolean readLaw() {
             if (!readSame()) {
                 return false;
             }
-            boolean condition = nextSign() == '&' || nextSign() == '>';
-            for (int i = 0; i < MOST_TERMS && takes('&'); i++) {
+            if (signs[at] == '&' || signs[at] == '>') {
+                for (int i = 0; i < MOST_TERMS && takes('&'); i++) {
+                    if (!readSame()) {
+                        return false;
+                    }
+                }
+                if (!takes('>')) {
+                    return failHere(WRONG_SIGN);
+                }
                 if (!readSame()) {
                     return false;
                 }
-            }
-            if (condition && !(takes('>') ? readSame() : failAt(at, WRONG_SIGN))) {
-                return false;
             }
             list.endLaw();
             return true;
@@ -1256,7 +1288,7 @@ public final class AlgebraCabinet {
                 return false;
             }
             if (!takes('=')) {
-                return failAt(at, WRONG_SIGN);
+                return failHere(WRONG_SIGN);
             }
             int right = list.termCount;
             if (!readTerm(0)) {
@@ -1267,18 +1299,18 @@ public final class AlgebraCabinet {
         }
 
         private boolean readTerm(int within) {
-            int sign = termSign(nextSign());
+            int sign = termSign(signs[at]);
             if (sign == NONE) {
-                return failAt(at, WRONG_SIGN);
+                return failHere(WRONG_SIGN);
             }
             if (within >= MOST_WITHIN) {
-                return failAt(at, TOO_DEEP);
+                return failHere(TOO_DEEP);
             }
             if (list.lawCount >= MOST_LAWS || list.termCount >= MOST_TERMS) {
-                return failAt(at, TOO_LONG);
+                return failHere(TOO_LONG);
             }
             int term = list.addTerm(sign);
-            termPlace[term] = at;
+            termPlace[term] = signPlace[at];
             at++;
             return sign < VARIABLES || !takes('(') || readArguments(term, within + 1);
         }
@@ -1295,7 +1327,7 @@ public final class AlgebraCabinet {
                 }
                 list.arguments[term] = 2;
             }
-            return takes(')') || failAt(at, WRONG_SIGN);
+            return takes(')') || failHere(WRONG_SIGN);
         }
 
         private static int termSign(int sign) {
@@ -1303,26 +1335,6 @@ public final class AlgebraCabinet {
                 return sign - 'x';
             }
             return sign >= 'a' && sign <= 'd' ? sign - 'a' + VARIABLES : NONE;
-        }
-
-        /** The sign that comes next, with at moved to it, or NONE at the end. */
-        private int nextSign() {
-            for (int i = at; i < text.length && isBlank(text.byteAt(at)); i++) {
-                at++;
-            }
-            return text.byteAt(at);
-        }
-
-        private static boolean isBlank(int sign) {
-            return sign == ' ' || sign == '\n';
-        }
-
-        private boolean takes(int sign) {
-            if (nextSign() != sign) {
-                return false;
-            }
-            at++;
-            return true;
         }
 
         private boolean compareArguments() {
@@ -1842,8 +1854,6 @@ public final class AlgebraCabinet {
     /** Goes through the tables of one shape in the order of their lines. */
     private static final class ModelSearch {
         private static final int[] NUMBERINGS = {1, 1, 2, 6, 24, 120, 720, 5040};
-        /** No place of a cell, nor the NONE of a refutation that looked at no cell. */
-        private static final int NOT_REFUTED = -2;
 
         int forms;
         int all;
@@ -1864,9 +1874,10 @@ public final class AlgebraCabinet {
             all = 0;
             boolean more = true;
             for (int i = 0; i < MOST_TABLES && more; i++) {
-                int reach = refute(table, list);
-                if (reach != NOT_REFUTED) {
-                    more = advance(table, reach);
+                boolean broken = trial.firstBroken(table, list) != NONE;
+                if (broken || !leastForm.seek(table, true)) {
+                    // whatever tables have the same cells as far as this was looked at are no forms either
+                    more = advance(table, broken ? trial.reach : leastForm.reach);
                     continue;
                 }
                 if (forms == k) {
@@ -1879,14 +1890,6 @@ public final class AlgebraCabinet {
                 more = advance(table, table.cellCount() - 1);
             }
             return false;
-        }
-
-        /** The last cell that shows that the table is no form: all tables with the same cells up to it are none. */
-        private int refute(Algebra table, LawList list) {
-            if (trial.firstBroken(table, list) != NONE) {
-                return trial.reach;
-            }
-            return leastForm.seek(table, true) ? NOT_REFUTED : leastForm.reach;
         }
 
         /** The first table in order that differs from this one at a place or ahead of it. */

@@ -1,0 +1,46 @@
+import java.lang.management.ManagementFactory;
+
+/** All calls of a run live in one room: an object makes its rows once, and no call makes more. */
+public final class RoomTest {
+    private static final com.sun.management.ThreadMXBean THREADS =
+        (com.sun.management.ThreadMXBean) ManagementFactory.getThreadMXBean();
+
+    public static void main(String[] args) {
+        long before = bytes();
+        AlgebraCabinet cabinet = new AlgebraCabinet();
+        Due.isTrue("a new object is small", bytes() - before < 200000);
+        prepare(cabinet);
+        dearCalls(cabinet);
+        before = bytes();
+        int answers = 0;
+        for (int i = 0; i < 16; i++) {
+            answers += dearCalls(cabinet);
+        }
+        Due.isTrue("calls make nothing", bytes() - before < 20000);
+        Due.isTrue("calls are not refused", answers > 0);
+        Due.finish();
+    }
+
+    private static long bytes() {
+        return THREADS.getCurrentThreadAllocatedBytes();
+    }
+
+    private static void prepare(AlgebraCabinet cabinet) {
+        Due.laws(cabinet, 0, "a(a(x,y),z)=a(x,a(y,z));a(x,y)=a(y,x)");
+        Due.read(cabinet, 0, "7;b" + "0000000".repeat(7) + ";b" + "0123456".repeat(7) + ";b" + "0123456".repeat(7));
+        Due.read(cabinet, 1, "4;b" + "1230" + "2230" + "3330" + "0000");
+        Due.read(cabinet, 2, "3;b012120201");
+        Due.read(cabinet, 3, "2;b0110");
+    }
+
+    private static int dearCalls(AlgebraCabinet c) {
+        int sum = c.least(0, 4) + c.alike(0, 4) + c.map(0, 0, 1, 100) + c.map(0, 0, 3, -1) + c.congruence(0, -1);
+        sum += c.link(0, 1, 5) + c.bound(0, 3, 5, true) + c.bound(0, 3, 5, false) + c.quotient(0, 3, 5) + c.part(0, -1);
+        sum += c.sub(0, 9, 5) + c.span(0, 64) + c.function(1, -1) + c.function(1, 200) + c.product(2, 3, 6);
+        sum += c.models(3, 3, 0, true) + c.models(3, 3, 0, false) + c.model(3, 3, 0, 5, 7) + c.holds(2, 0) + c.fails(2, 0, 1);
+        sum += c.witness(2, 0, 1) + c.traits(0, 0) + c.powers(0, 0, 3) + c.centre(0, 0) + c.tell(0) + c.undo() + c.about(0, 3);
+        sum += c.make(7, 7, 3333) + c.set(7, 0, 1, 1, 1) + c.stamp(7, 0, 1, 2, 7) + c.drop(7);
+        sum += c.feed(0x613D6228, 0x7829, 0, 0, 0) + c.laws(1) + c.feed(0x333B6331, 0, 0, 0, 0) + c.trim(4) + c.read(7);
+        return sum;
+    }
+}
