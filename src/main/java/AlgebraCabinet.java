@@ -1135,6 +1135,7 @@ public final class AlgebraCabinet {
             faultPlace = 0;
         }
 
+        /** Answers false, so that whatever reads can end with it. */
         private boolean failAt(int place, int kind) {
             faultKind = kind;
             faultPlace = place;
@@ -1153,10 +1154,11 @@ public final class AlgebraCabinet {
             tape.length = 0;
         }
 
-        private boolean readTables(Algebra into) {
+        private void readTables(Algebra into) {
             int size = text.byteAt(0) - '0';
             if (size < 1 || size > MOST_SIZE) {
-                return failAt(0, WRONG_SIGN);
+                failAt(0, WRONG_SIGN);
+                return;
             }
             into.begin(size);
             at = 1;
@@ -1164,7 +1166,6 @@ public final class AlgebraCabinet {
             for (int i = 0; i <= MOST_OPERATIONS && good && at < text.length; i++) {
                 good = readOperation(into);
             }
-            return good;
         }
 
         private boolean readOperation(Algebra into) {
@@ -1337,7 +1338,7 @@ public final class AlgebraCabinet {
             return sign >= 'a' && sign <= 'd' ? sign - 'a' + VARIABLES : NONE;
         }
 
-        private boolean compareArguments() {
+        private void compareArguments() {
             Arrays.fill(argumentsOf, NONE);
             for (int term = 0; term < list.termCount; term++) {
                 int letter = list.sign[term] - VARIABLES;
@@ -1348,10 +1349,10 @@ public final class AlgebraCabinet {
                     argumentsOf[letter] = list.arguments[term];
                 }
                 if (argumentsOf[letter] != list.arguments[term]) {
-                    return failAt(termPlace[term], WRONG_ARGUMENTS);
+                    failAt(termPlace[term], WRONG_ARGUMENTS);
+                    return;
                 }
             }
-            return true;
         }
     }
 
@@ -1461,7 +1462,7 @@ public final class AlgebraCabinet {
             for (int e = algebra.size - 1; e > 0; e--) {
                 if (line[e] != e) {
                     int leader = line[e] + 1;
-                    for (int i = leader; i < e && line[leader] != leader; i++) {
+                    while (leader < e && line[leader] != leader) {
                         leader++;
                     }
                     line[e] = leader;

@@ -55,6 +55,11 @@ public final class FunctionsModelsTest {
             Due.due("function " + k, cabinet.function(0, k), line);
         }
         Due.due("behind the last", cabinet.function(0, 256), OUTSIDE);
+        Due.read(cabinet, 2, "7;u6320000;u1431614;u4435331");
+        Due.due("300 functions", cabinet.function(2, NONE), 300);
+        Due.due("behind the last", cabinet.function(2, 300), OUTSIDE);
+        Due.read(cabinet, 3, "6;u333122;u353050;u455015");
+        Due.due("301 functions", cabinet.function(3, NONE), MANY);
         Due.read(cabinet, 1, "5;b" + "12340" + "22340" + "33340" + "44440" + "00000");
         Due.due("all functions of five", cabinet.function(1, NONE), MANY);
         Due.due("MANY ahead of OUTSIDE", cabinet.function(1, -2), MANY);

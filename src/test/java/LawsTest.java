@@ -91,6 +91,11 @@ public final class LawsTest {
         Due.due("3 ahead of 4", Due.laws(cabinet, 0, full + "&" + nine), -100 - (full.length() + 17));
         Due.due("3 ahead of 4", cabinet.fault(), 3);
         Due.due("the list stays", cabinet.fails(0, 0, 0), 42);
+        Due.due("a full tape", Due.laws(cabinet, 0, "x".repeat(400)), -101);
+        Due.due("a full tape of blanks", Due.laws(cabinet, 0, " \n".repeat(200)), -500);
+        Due.due("a full tape of parentheses", Due.laws(cabinet, 0, "a(".repeat(200)), -116);
+        Due.due("a law behind blanks", Due.laws(cabinet, 0, " ".repeat(397) + "x=y"), 1);
+        Due.due("a law without its end", Due.laws(cabinet, 0, " ".repeat(398) + "x="), -500);
     }
 
     private static void listsAndTape() {
