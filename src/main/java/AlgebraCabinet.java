@@ -181,7 +181,7 @@ public final class AlgebraCabinet {
 
     public int read(int drawer) {
         if (!isDrawer(drawer)) {
-            reader.readNothing(tape);
+            reader.passOver(tape);
             return OUTSIDE;
         }
         reader.readAlgebra(tape, draft);
@@ -224,7 +224,7 @@ public final class AlgebraCabinet {
 
     public int laws(int list) {
         if (!isList(list)) {
-            reader.readNothing(tape);
+            reader.passOver(tape);
             return OUTSIDE;
         }
         reader.readLaws(tape, spareList);
@@ -1142,9 +1142,8 @@ public final class AlgebraCabinet {
             return false;
         }
 
-        /** A refused call uses up the tape too, and reads no text that could have a fault. */
-        void readNothing(Bytes tape) {
-            begin(tape);
+        /** A refused call uses up the tape but reads no text, so the fault stays that of the text read latest. */
+        void passOver(Bytes tape) {
             tape.length = 0;
         }
 

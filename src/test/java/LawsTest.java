@@ -117,26 +117,47 @@ public final class LawsTest {
         Due.due("lists", cabinet.count(4), 4);
     }
 
-    /** A refused call uses the tape up and reads no text, so there is none whose fault could be told. */
+    /** A refused call uses the tape up and reads no text: the fault is still that of the text read ahead of it. */
     private static void faultBehindRefusals() {
-        AlgebraCabinet cabinet = new AlgebraCabinet();
-        for (int list : new int[] {-1, 4, Integer.MAX_VALUE, Integer.MIN_VALUE}) {
-            Due.laws(cabinet, 0, "x=");
-            Due.due("fault", cabinet.fault(), 1);
-            Due.due("laws OUTSIDE", Due.laws(cabinet, list, "x=x"), OUTSIDE);
+        int[] wrong = {-1, 4, 8, Integer.MAX_VALUE, Integer.MIN_VALUE};
+        for (int list : wrong) {
+            AlgebraCabinet cabinet = new AlgebraCabinet();
+            Due.due("laws OUTSIDE", Due.laws(cabinet, list, "x="), OUTSIDE);
             Due.due("tape behind a refused laws", cabinet.count(0), 0);
-            Due.due("fault behind a refused laws", cabinet.fault(), 0);
+            Due.due("no text was read", cabinet.fault(), 0);
+            Due.laws(cabinet, 0, "a=a(x)");
+            refuseBoth(cabinet, list, 2);
+            Due.read(cabinet, 0, "");
+            refuseBoth(cabinet, list, 1);
+            Due.read(cabinet, 0, "1;c0;c0;c0;c0;c0");
+            refuseBoth(cabinet, list, 3);
+            Due.laws(cabinet, 0, "x=x;x=x;x=x;x=x;x=x;x=x;x=x");
+            refuseBoth(cabinet, list, 4);
+            Due.laws(cabinet, 0, "x=x");
+            refuseBoth(cabinet, list, 0);
+            Due.read(cabinet, 0, "3;c7");
+            refuseBoth(cabinet, list, 2);
+            Due.read(cabinet, 0, "3");
+            refuseBoth(cabinet, list, 0);
         }
-        Due.read(cabinet, 0, "3;c7");
-        Due.due("fault of read", cabinet.fault(), 2);
-        Due.due("read OUTSIDE", Due.read(cabinet, 8, "3;c7"), OUTSIDE);
-        Due.due("fault behind a refused read", cabinet.fault(), 0);
+        AlgebraCabinet cabinet = new AlgebraCabinet();
         Due.laws(cabinet, 0, "a=a(x)");
         cabinet.holds(9, 9);
         cabinet.make(0, 0, 0);
         Due.due("other refusals leave the fault", cabinet.fault(), 2);
-        Due.read(cabinet, 0, "3");
-        Due.due("fault of a good read", cabinet.fault(), 0);
+    }
+
+    /** Drawer 4 is one, so read() is refused by another number there. */
+    private static void refuseBoth(AlgebraCabinet cabinet, int list, int fault) {
+        Due.due("fault", cabinet.fault(), fault);
+        for (String text : new String[] {"", "x=x", "3;c7"}) {
+            Due.due("laws OUTSIDE", Due.laws(cabinet, list, text), OUTSIDE);
+            Due.due("tape behind a refused laws", cabinet.count(0), 0);
+            Due.due("fault behind a refused laws", cabinet.fault(), fault);
+            Due.due("read OUTSIDE", Due.read(cabinet, list == 4 ? 9 : list, text), OUTSIDE);
+            Due.due("tape behind a refused read", cabinet.count(0), 0);
+            Due.due("fault behind a refused read", cabinet.fault(), fault);
+        }
     }
 
     private static void holds() {

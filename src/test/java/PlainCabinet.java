@@ -256,7 +256,6 @@ final class PlainCabinet {
         StringBuilder text = new StringBuilder();
         tape.forEach(b -> text.append((char) (int) b));
         tape.clear();
-        fault = 0;
         return text.toString();
     }
 
@@ -266,6 +265,7 @@ final class PlainCabinet {
         if (noDrawer(drawer)) {
             return OUTSIDE;
         }
+        fault = 0;
         int size = 0;
         List<Integer> arities = new ArrayList<>();
         List<Integer> cells = new ArrayList<>();
@@ -397,6 +397,7 @@ final class PlainCabinet {
         if (list < 0 || list > 3) {
             return OUTSIDE;
         }
+        fault = 0;
         List<int[]> letters = new ArrayList<>();
         int place = faultPlace(text, letters);
         if (fault == 0) {
