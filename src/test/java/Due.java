@@ -1,4 +1,5 @@
 import java.nio.charset.StandardCharsets;
+import java.util.stream.IntStream;
 
 /** What the tests share: answers that are due, texts for the tape, and the end of a test. */
 final class Due {
@@ -67,6 +68,25 @@ final class Due {
             wrong++;
             System.out.println(call + " gave " + got + ", due is " + want);
         }
+    }
+
+    /** Whether a number tells arities: no operations, or one to four digits, each 1, 2 or 3. */
+    static boolean areArities(int number) {
+        return number == 0 || Integer.toString(number).matches("[123]{1,4}");
+    }
+
+    /** All numbers that tell arities: 1 + 3 + 9 + 27 + 81 of them. */
+    static int[] allArities() {
+        return IntStream.rangeClosed(0, 3333).filter(Due::areArities).toArray();
+    }
+
+    /** How many cells an algebra of a size and arities has. */
+    static int cells(int size, int arities) {
+        int cells = 0;
+        for (int rest = arities; rest > 0; rest /= 10) {
+            cells += rest % 10 == 1 ? 1 : rest % 10 == 2 ? size : size * size;
+        }
+        return cells;
     }
 
     /** 49 l0 + 7 l1 + l2 for "012", and so on. */

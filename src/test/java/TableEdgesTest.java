@@ -135,24 +135,11 @@ public final class TableEdgesTest {
     /** make: "A drawer has a new algebra of a size and arities, 0 in all cells: how many cells." */
     private static void makeAllShapes() {
         for (int size = 1; size <= 7; size++) {
-            AlgebraCabinet cabinet = new AlgebraCabinet();
-            StringBuilder sixes = new StringBuilder("7");
-            for (int i = 0; i < 4; i++) {
-                sixes.append(";b").append("6".repeat(49));
-            }
-            for (int number = 0; number <= 3333; number++) {
-                if (number != 0 && !Integer.toString(number).matches("[123]+")) {
-                    continue;
-                }
-                if (number % 1111 == 0) {
-                    cabinet = new AlgebraCabinet();
-                    Due.read(cabinet, 0, sixes.toString());
-                }
-                int cells = 0;
-                for (int rest = number; rest > 0; rest /= 10) {
-                    cells += rest % 10 == 1 ? 1 : rest % 10 == 2 ? size : size * size;
-                }
-                Due.due("make " + size + " " + number, cabinet.make(0, size, number), cells);
+            for (int arities : Due.allArities()) {
+                AlgebraCabinet cabinet = new AlgebraCabinet();
+                Due.read(cabinet, 0, "7" + (";b" + "6".repeat(49)).repeat(4));
+                int cells = Due.cells(size, arities);
+                Due.due("make " + size + " " + arities, cabinet.make(0, size, arities), cells);
                 Due.due("cells", cabinet.about(0, 2), cells);
                 Due.due("cells that are not 0", cabinet.about(0, 3), 0);
             }

@@ -52,7 +52,8 @@ public final class TermsTest {
         }
         for (int drawer = 0; drawer < 8; drawer++) {
             Due.due("drawers that hold", cabinet.count(3), drawer);
-            Due.due("make", cabinet.make(drawer, 7 - drawer % 7, drawer % 4), drawer % 4 == 0 ? 0 : cells(drawer));
+            int size = 7 - drawer % 7;
+            Due.due("make", cabinet.make(drawer, size, drawer % 4), Due.cells(size, drawer % 4));
         }
         Due.due("eight at once", cabinet.count(3), 8);
         for (int drawer = 0; drawer < 8; drawer++) {
@@ -61,11 +62,6 @@ public final class TermsTest {
         }
         Due.due("drawer -1", cabinet.about(-1, 0), OUTSIDE);
         Due.due("drawer 8", cabinet.about(8, 0), OUTSIDE);
-    }
-
-    private static int cells(int drawer) {
-        int size = 7 - drawer % 7;
-        return drawer % 4 == 1 ? 1 : drawer % 4 == 2 ? size : size * size;
     }
 
     /** "a SIZE n, 1 .. 7": by make and by read. */
@@ -158,6 +154,8 @@ public final class TermsTest {
             Due.due("all are the same", cabinet.alike(7, drawer), 2);
         }
         Due.due("not with another last cell", cabinet.alike(7, 0), 0);
+        cabinet.make(0, 7, 3333);
+        Due.due("traits without an e", cabinet.traits(0, 3), 1 + 2 + 32);
         Due.due("least", cabinet.least(7, 6), 6);
         Due.due("least is the same", cabinet.alike(6, 7), 2);
         Due.due("functions", cabinet.function(7, NONE), 7);
@@ -269,12 +267,8 @@ public final class TermsTest {
             if (number % 200 == 0) {
                 cabinet = new AlgebraCabinet();
             }
-            boolean right = number == 0 || Integer.toString(number).matches("[123]{1,4}");
-            int cells = 0;
-            for (int rest = number; rest > 0; rest /= 10) {
-                cells += rest % 10 == 1 ? 1 : rest % 10 == 2 ? 2 : 4;
-            }
-            Due.due("make of arities " + number, cabinet.make(0, 2, number), right ? cells : OUTSIDE);
+            boolean right = Due.areArities(number);
+            Due.due("make of arities " + number, cabinet.make(0, 2, number), right ? Due.cells(2, number) : OUTSIDE);
             if (right) {
                 Due.due("about", cabinet.about(0, 1), number);
             }
