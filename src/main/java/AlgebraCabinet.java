@@ -1647,19 +1647,21 @@ public final class AlgebraCabinet {
                 meet();
                 return;
             }
-            int left = from.size - 1 - e;
             for (int v = 0; v < to.size && !met; v++) {
-                int nowUsed = used | 1 << v;
-                if (noTwoAlike && nowUsed == used) {
-                    continue;
-                }
-                if (eachThere && to.size - Integer.bitCount(nowUsed) > left) {
-                    continue;
-                }
-                line[e] = v;
-                if (keepsCells(e)) {
-                    extend(e + 1, nowUsed);
-                }
+                give(e, v, used);
+            }
+        }
+
+        /** Goes on with the next element, if the line can still become a map. */
+        private void give(int e, int v, int used) {
+            int nowUsed = used | 1 << v;
+            int left = from.size - 1 - e;
+            if (noTwoAlike && nowUsed == used || eachThere && to.size - Integer.bitCount(nowUsed) > left) {
+                return;
+            }
+            line[e] = v;
+            if (keepsCells(e)) {
+                extend(e + 1, nowUsed);
             }
         }
 
@@ -1791,7 +1793,8 @@ public final class AlgebraCabinet {
                 line[e] = e;
             }
             addLine();
-            for (int i = 0; i < found && !tooMany; i++) {
+            // found grows meanwhile, so it alone would be no bound
+            for (int i = 0; i < MOST_FUNCTIONS && i < found && !tooMany; i++) {
                 for (int operation = 0; operation < algebra.operations; operation++) {
                     combineUpTo(operation, i);
                 }

@@ -21,14 +21,18 @@ public final class LanguageTest {
     private static final int MOST_LINES = 66;
 
     public static void main(String[] args) throws Exception {
-        String text = Files.readString(SOURCE);
-        String code = text.replaceAll("\"(\\\\.|[^\"\\\\])*\"", "\"\"").replaceAll("'(\\\\.|[^'\\\\])'", "' '")
-            .replaceAll("(?s)/\\*.*?\\*/", "").replaceAll("//[^\n]*", "");
+        String code = code();
         words(code);
         shapes(code);
         library(code);
         methods(code);
         Due.finish();
+    }
+
+    /** The text of the class without its comments, and without what stands in texts and characters. */
+    static String code() throws Exception {
+        return Files.readString(SOURCE).replaceAll("\"(\\\\.|[^\"\\\\])*\"", "\"\"").replaceAll("'(\\\\.|[^'\\\\])'", "' '")
+            .replaceAll("(?s)/\\*.*?\\*/", "").replaceAll("//[^\n]*", "");
     }
 
     private static void none(String rule, String pattern, String code) {
